@@ -13,6 +13,7 @@ public final class ChangeTests {
         mendOrder();
         undo();
         undoFinal();
+        mostTriangles();
         checksum();
         Check.close("ChangeTests");
     }
@@ -75,6 +76,7 @@ public final class ChangeTests {
         Check.same("21: that makes the drawing anew", flips.state(6), 0);
         Check.same("21: and is a change", flips.state(9), 5);
         Check.refused("21: another one is there", flips, () -> flips.move(2, 0, 4));
+        Check.refused("21: the first one is there", flips, () -> flips.move(3, 0, 0));
         for (int far : FAR) {
             Check.illegal("21: move(0, " + far + ", 0)", flips, () -> flips.move(0, far, 0));
             Check.illegal("21: move(0, 4, " + far + ")", flips, () -> flips.move(0, 4, far));
@@ -190,6 +192,32 @@ public final class ChangeTests {
         }
         Check.same("24: what is final stays", Check.row(flips.state(0), flips.undo()), "4 -1");
         Check.refused("24: a call that throws is no change", flips, () -> flips.put(0, 0));
+    }
+
+    /** As many triangles as 20 points can have, put, flipped, mended and undone. */
+    private static void mostTriangles() {
+        CircleFlips flips = Check.loaded("plane;at 0 0 200 0 100 200;");
+        for (int i = 3; i < 20; i++) {
+            Check.same("19: a crowd", flips.put(60 + i * 37 % 80, 5 + i * 53 % 89), i);
+        }
+        Check.same("19: the most triangles", Check.row(flips.state(1), flips.state(2), flips.state(3), flips.state(5)), "35 54 3 35");
+        int flipped = 0;
+        for (int q = 19; q > 0; q--) {
+            for (int p = 0; p < q; p++) {
+                if (flips.why(p, q) == 0) {
+                    flips.flip(p, q);
+                    flipped++;
+                }
+            }
+        }
+        Check.same("22: all that can be flipped", Check.row(flips.state(1), flips.state(2), flips.state(10)), "35 54 " + flipped);
+        int mended = flips.mend(500);
+        Check.same("23: at once", Check.row(flips.state(4), flips.state(6), flips.state(10)), "0 0 " + (flipped + mended));
+        flips.undo();
+        Check.same("24: bad edges again", flips.state(4) > 0, true);
+        Check.same("23: all the same", flips.mend(500), mended);
+        flips.move(19, flips.point(19, 0), flips.point(19, 1));
+        Check.same("21: and the drawing", flips.state(6), 0);
     }
 
     // Promise 25

@@ -117,6 +117,8 @@ public final class QuestionTests {
         Check.same("7: its due ones stay", triangles(rhombus, true), "0 2 3, 1 2 3");
         Check.same("7: turn without sign", Check.row(rhombus.triangle(0, false, 3), rhombus.triangle(1, false, 3)), "100 100");
         Check.same("7: within the circle", Check.row(rhombus.triangle(0, false, 4), rhombus.triangle(0, true, 4)), "1 0");
+        CircleFlips first = Check.loaded("plane;at 10 4 0 5 20 5 10 0 10 11;flip 0 4;");
+        Check.same("7: within the circle, the point 0", Check.row(first.triangle(3, false, 2), first.triangle(3, false, 4)), "4 2");
         Check.same("7: on the circle", Check.row(rhombus.triangle(0, false, 5), Check.loaded(SQUARE).triangle(1, true, 5)), "0 1");
         CircleFlips nest = Check.loaded(NEST);
         Check.same("7: nest", triangles(nest, false),
@@ -192,7 +194,26 @@ public final class QuestionTests {
         Check.same("11: outside", Check.row(flips.at(5, 2), flips.at(-1, 0), flips.at(-4, -4)), "-1 -1 -1");
         flips.flip(0, 2);
         Check.same("11: of the drawing", flips.at(3, 3), 1);
+        sweep("plane;at 2 1 9 3 4 8;");
+        sweep("plane;at 2 1 4 8 9 3;");
+        sweep("plane;at 0 0 9 0 0 9;");
+        sweep("plane;at 0 0 0 9 9 0;");
         wrongPlaces("11: at", flips, flips::at);
+    }
+
+    /** All places in and round one triangle, also those on its edges. */
+    private static void sweep(String text) {
+        CircleFlips flips = Check.loaded(text);
+        int[][] corners = new int[3][2];
+        for (int p = 0; p < 3; p++) {
+            corners[p] = new int[] {flips.point(p, 0), flips.point(p, 1)};
+        }
+        for (int x = -2; x < 12; x++) {
+            for (int y = -2; y < 12; y++) {
+                boolean isInside = Model.isInside(corners[0], corners[1], corners[2], new int[] {x, y});
+                Check.same("11: at(" + x + ", " + y + ") of " + text, flips.at(x, y), isInside ? 0 : -1);
+            }
+        }
     }
 
     private interface Asked {
@@ -213,7 +234,7 @@ public final class QuestionTests {
         CircleFlips flips = Check.loaded(SQUARE);
         Check.same("12: within both", flips.hit(2, 2), 2);
         Check.same("12: on both", Check.row(flips.hit(0, 0), flips.hit(4, 4)), "0 0");
-        Check.same("12: beyond an edge, within", flips.hit(2, -0), 2);
+        Check.same("12: on an edge", flips.hit(2, 0), 2);
         CircleFlips rhombus = Check.loaded(RHOMBUS);
         rhombus.flip(2, 3);
         Check.same("12: of the due ones", Check.row(rhombus.hit(1, 5), rhombus.hit(10, 5), rhombus.hit(19, 5)), "1 2 1");
@@ -230,6 +251,10 @@ public final class QuestionTests {
         Check.same("13: a line", Check.row(line.corner(0), line.corner(1)), "1 2");
         Check.thrown("13: no third one", line, NoSuchElementException.class, () -> line.corner(2));
         CircleFlips onBorder = Check.loaded("plane;at 5 0 10 0 0 0 5 5;");
+        CircleFlips upright = Check.loaded("plane;at 0 5 0 9 0 0 0 2 7 9 7 0 7 4;");
+        Check.same("13: none between others, upright",
+                Check.row(upright.corner(0), upright.corner(1), upright.corner(2), upright.corner(3)), "1 2 5 4");
+        Check.same("13: layers of it", points(upright, 4), "1 0 0 1 0 0 1");
         Check.same("13: none between others", Check.row(onBorder.corner(0), onBorder.corner(1), onBorder.corner(2)), "1 3 2");
         CircleFlips none = new CircleFlips();
         for (int place : new int[] {-1, 4, Integer.MIN_VALUE, Integer.MAX_VALUE}) {
@@ -268,8 +293,9 @@ public final class QuestionTests {
         CircleFlips flips = Check.loaded("plane;at 0 0 0 3 7 1;");
         Check.same("16: x, turned to the right", flips.centre(0, true), 141.0 / 42.0);
         Check.same("16: y", flips.centre(0, false), 1.5);
-        Check.same("16: the sign of a zero", Check.loaded("plane;at 0 1 3 0 1 0;").centre(0, true), 2.0);
-        Check.same("16: 0.0 over a number below 0", Check.loaded("plane;at 1 1 1 7 7 1;").centre(0, true), 4.0);
+        CircleFlips odd = Check.loaded("plane;at 1 2 8 3 4 9;");
+        Check.same("16: x, turned to the left", odd.centre(0, true), 384.0 / 92.0);
+        Check.same("16: y", odd.centre(0, false), 440.0 / 92.0);
         square.flip(0, 2);
         Check.same("16: of the due ones, not the drawing", square.centre(1, true), 2.0);
         for (int t : new int[] {-1, 2, Integer.MIN_VALUE, Integer.MAX_VALUE}) {

@@ -107,6 +107,16 @@ public final class TextTests {
         fails("   ", -2, 3);
         fails("plan;", -2, 0);
         fails("planes;", -2, 0);
+        fails("plant;", -2, 0);
+        fails("blane;", -2, 0);
+        fails("plane;it 0 0;", -2, 6);
+        fails("plane;an 0 0;", -2, 6);
+        fails("plane;atz 0 0;", -2, 6);
+        fails("plane;ata 0 0;", -2, 6);
+        fails("plane;at`0 0;", -2, 8);
+        fails("plane;at{0 0;", -2, 8);
+        fails("plane;at/0 0;", -2, 8);
+        fails("plane;at:0 0;", -2, 8);
         fails("planeat 0 0;", -2, 0);
         fails("Plane;", -2, 0);
         fails("plane", -2, 5);
@@ -126,6 +136,8 @@ public final class TextTests {
         fails("plane;atx 0 0;", -2, 6);
         fails("plane;at 0 0x;", -2, 12);
         fails("plane;at 0 0;flip;", -2, 17);
+        fails(SQUARE + "flap 0 2;", -2, 25);
+        fails(SQUARE + "clip 0 2;", -2, 25);
         fails(SQUARE + "flip 0 2", -2, 33);
         fails(SQUARE + "flip 0 2 1;", -2, 34);
         fails(SQUARE + "flip 0;", -2, 31);
