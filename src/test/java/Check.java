@@ -66,6 +66,25 @@ final class Check {
         return flips;
     }
 
+    /** The text has no error, and so many points. */
+    static void loads(String text, int points) {
+        CircleFlips flips = new CircleFlips();
+        same("3: " + text, load(flips, text), points);
+        same("4: " + text, flips.errorOffset(), -1);
+        same("3: the points of " + text, flips.state(0), points);
+    }
+
+    /** The text has this error there, and changes nothing. */
+    static void fails(String text, int code, int offset) {
+        CircleFlips flips = loaded("plane;at 7 8;");
+        long before = flips.checksum();
+        same("3: " + text, load(flips, text), code);
+        same("4: offset in " + text, flips.errorOffset(), offset);
+        same("3: data behind " + text, flips.checksum(), before);
+        same("3: changes behind " + text, flips.state(9), 1);
+        illegal("3: the buffer behind " + text, flips, () -> flips.load(1));
+    }
+
     /** The numbers of a row in one text. */
     static String row(int... numbers) {
         StringBuilder row = new StringBuilder();

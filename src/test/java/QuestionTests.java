@@ -28,47 +28,22 @@ public final class QuestionTests {
         Check.close("QuestionTests");
     }
 
-    private static String states(CircleFlips flips) {
-        int[] states = new int[12];
-        for (int what = 0; what <= 11; what++) {
-            states[what] = flips.state(what);
-        }
-        return Check.row(states);
-    }
-
-    private static String points(CircleFlips flips, int what) {
-        int[] row = new int[flips.state(0)];
-        for (int p = 0; p < row.length; p++) {
-            row[p] = flips.point(p, what);
-        }
-        return Check.row(row);
-    }
-
-    private static String triangles(CircleFlips flips, boolean isDue) {
-        StringBuilder all = new StringBuilder();
-        for (int t = 0; t < flips.state(isDue ? 5 : 1); t++) {
-            all.append(all.length() == 0 ? "" : ", ").append(Check.row(
-                    flips.triangle(t, isDue, 0), flips.triangle(t, isDue, 1), flips.triangle(t, isDue, 2)));
-        }
-        return all.toString();
-    }
-
     // Promise 5
     private static void state() {
-        Check.same("5: square", states(Check.loaded(SQUARE)), "4 2 5 4 0 2 0 4 1 1 0 0");
+        Check.same("5: square", Told.states(Check.loaded(SQUARE)), "4 2 5 4 0 2 0 4 1 1 0 0");
         CircleFlips rhombus = Check.loaded(RHOMBUS);
-        Check.same("5: rhombus", states(rhombus), "4 2 5 4 0 2 0 4 1 1 0 0");
+        Check.same("5: rhombus", Told.states(rhombus), "4 2 5 4 0 2 0 4 1 1 0 0");
         rhombus.flip(2, 3);
-        Check.same("5: rhombus, flipped", states(rhombus), "4 2 5 4 1 2 1 4 1 2 1 0");
+        Check.same("5: rhombus, flipped", Told.states(rhombus), "4 2 5 4 1 2 1 4 1 2 1 0");
         rhombus.put(11, 5);
-        Check.same("5: rhombus, put", states(rhombus), "5 4 8 4 0 4 0 4 2 3 1 1");
+        Check.same("5: rhombus, put", Told.states(rhombus), "5 4 8 4 0 4 0 4 2 3 1 1");
         rhombus.take(4);
         rhombus.undo();
         Check.same("5: puts stay counted", rhombus.state(11), 1);
-        Check.same("5: nest", states(Check.loaded(NEST)), "8 10 17 4 0 10 0 4 3 1 0 0");
-        Check.same("5: line", states(Check.loaded(LINE)), "3 0 0 0 0 0 0 2 2 1 0 0");
-        Check.same("5: one point", states(Check.loaded("plane;at 9 9;")), "1 0 0 0 0 0 0 1 1 1 0 0");
-        Check.same("5: two points", states(Check.loaded("plane;at 9 9 1 1;")), "2 0 0 0 0 0 0 2 1 1 0 0");
+        Check.same("5: nest", Told.states(Check.loaded(NEST)), "8 10 17 4 0 10 0 4 3 1 0 0");
+        Check.same("5: line", Told.states(Check.loaded(LINE)), "3 0 0 0 0 0 0 2 2 1 0 0");
+        Check.same("5: one point", Told.states(Check.loaded("plane;at 9 9;")), "1 0 0 0 0 0 0 1 1 1 0 0");
+        Check.same("5: two points", Told.states(Check.loaded("plane;at 9 9 1 1;")), "2 0 0 0 0 0 0 2 1 1 0 0");
     }
 
     private static void stateWrong() {
@@ -81,19 +56,19 @@ public final class QuestionTests {
     // Promise 6
     private static void point() {
         CircleFlips nest = Check.loaded(NEST);
-        Check.same("6: x", points(nest, 0), "4 3 6 4 10 0 0 10");
-        Check.same("6: y", points(nest, 1), "4 3 3 6 10 10 0 0");
-        Check.same("6: layers", points(nest, 4), "2 1 1 1 0 0 0 0");
-        Check.same("6: nearest", points(nest, 6), "1 0 0 0 3 3 1 2");
+        Check.same("6: x", Told.points(nest, 0), "4 3 6 4 10 0 0 10");
+        Check.same("6: y", Told.points(nest, 1), "4 3 3 6 10 10 0 0");
+        Check.same("6: layers", Told.points(nest, 4), "2 1 1 1 0 0 0 0");
+        Check.same("6: nearest", Told.points(nest, 6), "1 0 0 0 3 3 1 2");
         CircleFlips rhombus = Check.loaded(RHOMBUS);
         rhombus.flip(3, 2);
-        Check.same("6: edges", points(rhombus, 2), "3 3 2 2");
-        Check.same("6: due edges", points(rhombus, 3), "2 2 3 3");
-        Check.same("6: joined", points(rhombus, 5), "14 13 3 3");
-        Check.same("6: nearest, the smallest index of several", points(rhombus, 6), "2 2 3 2");
+        Check.same("6: edges", Told.points(rhombus, 2), "3 3 2 2");
+        Check.same("6: due edges", Told.points(rhombus, 3), "2 2 3 3");
+        Check.same("6: joined", Told.points(rhombus, 5), "14 13 3 3");
+        Check.same("6: nearest, the smallest index of several", Told.points(rhombus, 6), "2 2 3 2");
         CircleFlips line = Check.loaded(LINE);
-        Check.same("6: a point on a line between is no corner", points(line, 4), "1 0 0");
-        Check.same("6: nothing joined on a line", points(line, 5), "0 0 0");
+        Check.same("6: a point on a line between is no corner", Told.points(line, 4), "1 0 0");
+        Check.same("6: nothing joined on a line", Told.points(line, 5), "0 0 0");
         Check.same("6: a lone point", Check.loaded("plane;at 9 9;").point(0, 6), -1);
         for (int p : new int[] {-1, 8, Integer.MIN_VALUE, Integer.MAX_VALUE}) {
             Check.outside("6: point(" + p + ", 0)", nest, () -> nest.point(p, 0));
@@ -105,23 +80,23 @@ public final class QuestionTests {
 
     // Promise 7, and the due triangles
     private static void triangle() {
-        Check.same("7: square", triangles(Check.loaded(SQUARE), true), "0 1 2, 0 2 3");
+        Check.same("7: square", Told.triangles(Check.loaded(SQUARE), true), "0 1 2, 0 2 3");
         CircleFlips circle = Check.loaded("plane;at 0 5 10 5 5 0 5 10 2 1 8 9 2 9 8 1;");
         Check.same("7: of a circle the smallest index is joined with all",
-                triangles(circle, true), "0 1 5, 0 1 7, 0 2 4, 0 2 7, 0 3 5, 0 3 6");
+                Told.triangles(circle, true), "0 1 5, 0 1 7, 0 2 4, 0 2 7, 0 3 5, 0 3 6");
         Check.same("7: others on the circle", circle.triangle(0, true, 5), 5);
         CircleFlips rhombus = Check.loaded(RHOMBUS);
-        Check.same("7: rhombus", triangles(rhombus, true), "0 2 3, 1 2 3");
+        Check.same("7: rhombus", Told.triangles(rhombus, true), "0 2 3, 1 2 3");
         rhombus.flip(2, 3);
-        Check.same("7: rhombus, flipped", triangles(rhombus, false), "0 1 2, 0 1 3");
-        Check.same("7: its due ones stay", triangles(rhombus, true), "0 2 3, 1 2 3");
+        Check.same("7: rhombus, flipped", Told.triangles(rhombus, false), "0 1 2, 0 1 3");
+        Check.same("7: its due ones stay", Told.triangles(rhombus, true), "0 2 3, 1 2 3");
         Check.same("7: turn without sign", Check.row(rhombus.triangle(0, false, 3), rhombus.triangle(1, false, 3)), "100 100");
         Check.same("7: within the circle", Check.row(rhombus.triangle(0, false, 4), rhombus.triangle(0, true, 4)), "1 0");
         CircleFlips first = Check.loaded("plane;at 10 4 0 5 20 5 10 0 10 11;flip 0 4;");
         Check.same("7: within the circle, the point 0", Check.row(first.triangle(3, false, 2), first.triangle(3, false, 4)), "4 2");
         Check.same("7: on the circle", Check.row(rhombus.triangle(0, false, 5), Check.loaded(SQUARE).triangle(1, true, 5)), "0 1");
         CircleFlips nest = Check.loaded(NEST);
-        Check.same("7: nest", triangles(nest, false),
+        Check.same("7: nest", Told.triangles(nest, false),
                 "0 1 2, 0 1 3, 0 2 3, 1 2 6, 1 3 5, 1 5 6, 2 3 4, 2 4 7, 2 6 7, 3 4 5");
         Check.same("7: beside", Check.row(nest.triangle(0, true, 6), nest.triangle(7, true, 6)), "3 2");
         for (int t : new int[] {-1, 10, Integer.MIN_VALUE, Integer.MAX_VALUE}) {
@@ -254,7 +229,7 @@ public final class QuestionTests {
         CircleFlips upright = Check.loaded("plane;at 0 5 0 9 0 0 0 2 7 9 7 0 7 4;");
         Check.same("13: none between others, upright",
                 Check.row(upright.corner(0), upright.corner(1), upright.corner(2), upright.corner(3)), "1 2 5 4");
-        Check.same("13: layers of it", points(upright, 4), "1 0 0 1 0 0 1");
+        Check.same("13: layers of it", Told.points(upright, 4), "1 0 0 1 0 0 1");
         Check.same("13: none between others", Check.row(onBorder.corner(0), onBorder.corner(1), onBorder.corner(2)), "1 3 2");
         CircleFlips none = new CircleFlips();
         for (int place : new int[] {-1, 4, Integer.MIN_VALUE, Integer.MAX_VALUE}) {

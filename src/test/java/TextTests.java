@@ -77,86 +77,72 @@ public final class TextTests {
     }
 
     private static void loadForms() {
-        loads("  plane  ;  ", 0);
-        loads("plane;at0 0 4 0;at 4 4 0 4;flip0 2;flip1 3;", 4);
-        loads(" plane ; at  1  2 ; ", 1);
-        loads("plane;at 0000000000000000000000200 00;", 1);
-        loads("plane;at 200 200;", 1);
-        loads("plane;at 0 0;at 0 1;at 1 0;", 3);
-        loads("plane;at 0 0 1 0 2 0 3 0 4 0 5 0 6 0 7 0 8 0 9 0 10 0 11 0 12 0 13 0 14 0 15 0 16 0 17 0 18 0 19 0;", 20);
-        loads(SQUARE + " flip 00 2 ;flip 1 0003;", 4);
-    }
-
-    private static void loads(String text, int points) {
-        CircleFlips flips = new CircleFlips();
-        Check.same("3: " + text, Check.load(flips, text), points);
-        Check.same("4: " + text, flips.errorOffset(), -1);
-    }
-
-    private static void fails(String text, int code, int offset) {
-        CircleFlips flips = Check.loaded("plane;at 7 8;");
-        long before = flips.checksum();
-        Check.same("3: " + text, Check.load(flips, text), code);
-        Check.same("4: offset in " + text, flips.errorOffset(), offset);
-        Check.same("3: data behind " + text, flips.checksum(), before);
+        Check.loads("  plane  ;  ", 0);
+        Check.loads("plane;at0 0 4 0;at 4 4 0 4;flip0 2;flip1 3;", 4);
+        Check.loads(" plane ; at  1  2 ; ", 1);
+        Check.loads("plane;at 0000000000000000000000200 00;", 1);
+        Check.loads("plane;at 200 200;", 1);
+        Check.loads("plane;at 0 0;at 0 1;at 1 0;", 3);
+        Check.loads("plane;at 0 0 1 0 2 0 3 0 4 0 5 0 6 0 7 0 8 0 9 0 10 0 11 0 12 0 13 0 14 0 15 0 16 0 17 0 18 0 19 0;", 20);
+        Check.loads(SQUARE + " flip 00 2 ;flip 1 0003;", 4);
     }
 
     // Promise 3, the kinds of errors and their offsets
     private static void loadErrors() {
-        fails("", -2, 0);
-        fails("   ", -2, 3);
-        fails("plan;", -2, 0);
-        fails("planes;", -2, 0);
-        fails("plant;", -2, 0);
-        fails("blane;", -2, 0);
-        fails("plane;it 0 0;", -2, 6);
-        fails("plane;an 0 0;", -2, 6);
-        fails("plane;atz 0 0;", -2, 6);
-        fails("plane;ata 0 0;", -2, 6);
-        fails("plane;at`0 0;", -2, 8);
-        fails("plane;at{0 0;", -2, 8);
-        fails("plane;at/0 0;", -2, 8);
-        fails("plane;at:0 0;", -2, 8);
-        fails("planeat 0 0;", -2, 0);
-        fails("Plane;", -2, 0);
-        fails("plane", -2, 5);
-        fails("plane  ", -2, 7);
-        fails("plane at 0 0;", -2, 6);
-        fails("plane;;", -2, 6);
-        fails("plane; plane;", -2, 7);
-        fails("plane;at;", -2, 8);
-        fails("plane;at 0;", -2, 10);
-        fails("plane;at 0", -2, 10);
-        fails("plane;at 0 ", -2, 11);
-        fails("plane;at 0 0", -2, 12);
-        fails("plane;at 0 0 5;", -2, 14);
-        fails("plane;at -1 0;", -2, 9);
-        fails("plane;at 0,0;", -2, 10);
-        fails("plane;at 0\t0;", -2, 10);
-        fails("plane;atx 0 0;", -2, 6);
-        fails("plane;at 0 0x;", -2, 12);
-        fails("plane;at 0 0;flip;", -2, 17);
-        fails(SQUARE + "flap 0 2;", -2, 25);
-        fails(SQUARE + "clip 0 2;", -2, 25);
-        fails(SQUARE + "flip 0 2", -2, 33);
-        fails(SQUARE + "flip 0 2 1;", -2, 34);
-        fails(SQUARE + "flip 0;", -2, 31);
-        fails(SQUARE + "flip 0 2; at 9 9;", -2, 35);
-        fails("plane;at 201 0;", -3, 9);
-        fails("plane;at 0 201;", -3, 11);
-        fails("plane;at 0 00201;", -3, 11);
-        fails("plane;at 4294967296 0;", -3, 9);
-        fails("plane;at 18446744073709551616 0;", -3, 9);
-        fails("plane;flip 0 1;", -3, 11);
-        fails(SQUARE + "flip 4 0;", -3, 30);
-        fails(SQUARE + "flip 0 4;", -3, 32);
-        fails("plane;at 0 0 0 0;", -4, 15);
-        fails("plane;at 5 6;at 5 006;", -4, 18);
-        fails(SQUARE + "flip 0 1;", -6, 32);
-        fails(SQUARE + "flip 1 3;", -6, 32);
-        fails(SQUARE + "flip 2 2;", -6, 32);
-        fails(SQUARE + "flip 0 2;flip 0 2;", -6, 41);
-        fails(SQUARE + "flip 0 1 x", -6, 32);
+        Check.fails("", -2, 0);
+        Check.fails("   ", -2, 3);
+        Check.fails("plan;", -2, 0);
+        Check.fails("planes;", -2, 0);
+        Check.fails("plant;", -2, 0);
+        Check.fails("blane;", -2, 0);
+        Check.fails("plane;it 0 0;", -2, 6);
+        Check.fails("plane;an 0 0;", -2, 6);
+        Check.fails("plane;atz 0 0;", -2, 6);
+        Check.fails("plane;ata 0 0;", -2, 6);
+        Check.fails("plane;at`0 0;", -2, 8);
+        Check.fails("plane;at{0 0;", -2, 8);
+        Check.fails("plane;at/0 0;", -2, 8);
+        Check.fails("plane;at:0 0;", -2, 8);
+        Check.fails("planeat 0 0;", -2, 0);
+        Check.fails("Plane;", -2, 0);
+        Check.fails("plane", -2, 5);
+        Check.fails("plane  ", -2, 7);
+        Check.fails("plane at 0 0;", -2, 6);
+        Check.fails("plane;;", -2, 6);
+        Check.fails("plane; plane;", -2, 7);
+        Check.fails("plane;at;", -2, 8);
+        Check.fails("plane;at 0;", -2, 10);
+        Check.fails("plane;at 0", -2, 10);
+        Check.fails("plane;at 0 ", -2, 11);
+        Check.fails("plane;at 0 0", -2, 12);
+        Check.fails("plane;at 0 0 5;", -2, 14);
+        Check.fails("plane;at -1 0;", -2, 9);
+        Check.fails("plane;at 0,0;", -2, 10);
+        Check.fails("plane;at 0\t0;", -2, 10);
+        Check.fails("plane;atx 0 0;", -2, 6);
+        Check.fails("plane;at 0 0x;", -2, 12);
+        Check.fails("plane;at 0 0;flip;", -2, 17);
+        Check.fails(SQUARE + "flap 0 2;", -2, 25);
+        Check.fails(SQUARE + "clip 0 2;", -2, 25);
+        Check.fails(SQUARE + "flip 0 2", -2, 33);
+        Check.fails(SQUARE + "flip 0 2 1;", -2, 34);
+        Check.fails(SQUARE + "flip 0;", -2, 31);
+        Check.fails(SQUARE + "flip 0 2; at 9 9;", -2, 35);
+        Check.fails("plane;at 201 0;", -3, 9);
+        Check.fails("plane;at 0 201;", -3, 11);
+        Check.fails("plane;at 0 00201;", -3, 11);
+        Check.fails("plane;at 4294967296 0;", -3, 9);
+        Check.fails("plane;at 18446744073709551616 0;", -3, 9);
+        Check.fails("plane;flip 0 1;", -3, 11);
+        Check.fails(SQUARE + "flip 4 0;", -3, 30);
+        Check.fails(SQUARE + "flip 0 4;", -3, 32);
+        Check.fails("plane;at 0 0 0 0;", -4, 15);
+        Check.fails("plane;at 5 6;at 5 006;", -4, 18);
+        Check.fails(SQUARE + "flip 0 1;", -6, 32);
+        Check.fails(SQUARE + "flip 1 3;", -6, 32);
+        Check.fails(SQUARE + "flip 2 2;", -6, 32);
+        Check.fails(SQUARE + "flip 0 2;flip 0 2;", -6, 41);
+        Check.fails(SQUARE + "flip 0 1 x", -6, 32);
         tooMany("7 7;", -5, 0);
         tooMany("7;", -5, 0);
         tooMany("7 201;", -5, 0);
@@ -173,7 +159,7 @@ public final class TextTests {
             text.append(' ').append(i).append(" 0");
         }
         text.append(' ');
-        fails(text + behind, code, text.length() + offset);
+        Check.fails(text + behind, code, text.length() + offset);
     }
 
     // Promise 4
