@@ -20,6 +20,7 @@ public final class ChangeBoundaryTests {
         takeRange();
         takeFirstAndLast();
         takeLess();
+        takenLeaveNothing();
         moveRange();
         moveOwnPlace();
         moveTaken();
@@ -59,7 +60,8 @@ public final class ChangeBoundaryTests {
     // "x: 0 to 200"; "y: 0 to 200"; "if x or y is out of range"
     private static void putRange() {
         CircleFlips flips = new CircleFlips();
-        Check.same("19: the edges of the plane", Check.row(flips.put(0, 0), flips.put(200, 0), flips.put(200, 200), flips.put(0, 200)), "0 1 2 3");
+        Check.same("19: the edges of the plane",
+                Check.row(flips.put(0, 0), flips.put(200, 0), flips.put(200, 200), flips.put(0, 200)), "0 1 2 3");
         Check.same("19: their places", Told.places(flips), "0 200 200 0 / 0 0 200 200");
         for (int far : FAR) {
             Check.illegal("19: put(" + far + ", 5)", flips, () -> flips.put(far, 5));
@@ -91,7 +93,8 @@ public final class ChangeBoundaryTests {
         CircleFlips flips = Check.loaded("plane;at 7 8 8 7;");
         Check.refused("19: the first one is there", flips, () -> flips.put(7, 8));
         Check.refused("19: the last one is there", flips, () -> flips.put(8, 7));
-        Check.same("19: one beside them", Check.row(flips.put(7, 7), flips.put(8, 8), flips.put(7, 9), flips.put(6, 8)), "2 3 4 5");
+        Check.same("19: one beside them", Check.row(flips.put(7, 7), flips.put(8, 8), flips.put(7, 9), flips.put(6, 8)),
+                "2 3 4 5");
         flips.take(0);
         Check.same("19: where one was taken", flips.put(7, 8), 5);
         flips.move(5, 100, 100);
@@ -162,11 +165,37 @@ public final class ChangeBoundaryTests {
     private static void takeLess() {
         CircleFlips flips = Check.loaded("plane;at 0 0 4 0 4 4 0 4 2 1;");
         flips.flip(2, 4);
-        Check.same("20: down to none", Check.row(flips.take(4), flips.take(3), flips.take(2), flips.take(1), flips.take(0)), "2 1 0 0 0");
+        Check.same("20: down to none", Check.row(flips.take(4), flips.take(3), flips.take(2), flips.take(1), flips.take(0)),
+                "2 1 0 0 0");
         CircleFlips line = Check.loaded("plane;at 0 0 4 0 8 0 4 4;");
         Check.same("20: only a line is left", Check.row(line.take(3), line.state(0)), "0 3");
         CircleFlips twenty = Check.loaded(TWENTY);
         Check.same("20: of one circle", Check.row(twenty.take(19), twenty.take(5), twenty.take(0)), "17 16 15");
+    }
+
+    private static void takenLeaveNothing() {
+        for (int left = 19; left >= 0; left--) {
+            CircleFlips flips = Check.loaded(TWENTY);
+            for (int before = 20; before > left; before--) {
+                flips.take(13 * before % 19 % before);
+            }
+            CircleFlips fresh = new CircleFlips();
+            for (int p = 0; p < left; p++) {
+                fresh.put(flips.point(p, 0), flips.point(p, 1));
+            }
+            Check.same("20: as without them", sums(flips), sums(fresh));
+        }
+    }
+
+    private static String sums(CircleFlips flips) {
+        int hits = 0;
+        int covered = 0;
+        for (int place = 0; place < 40; place += 3) {
+            hits += flips.hit(place, 20) + flips.hit(20, place);
+            covered += flips.at(place, 20) * (place + 1) + flips.at(20, place);
+        }
+        return hits + " " + covered + " " + flips.lift() + " " + flips.tree() + " " + Told.triangles(flips,
+                false) + " " + Told.corners(flips);
     }
 
     // ---- promise 21
@@ -183,7 +212,8 @@ public final class ChangeBoundaryTests {
             Check.illegal("21: move(0, " + far + ", 9)", flips, () -> flips.move(0, far, 9));
             Check.illegal("21: move(3, 9, " + far + ")", flips, () -> flips.move(3, 9, far));
         }
-        Check.same("21: to the edges of the plane", Check.row(flips.move(0, 200, 0), flips.move(1, 200, 200), flips.move(2, 0, 200), flips.move(3, 0, 0)), "1 1 1 2");
+        Check.same("21: to the edges of the plane",
+                Check.row(flips.move(0, 200, 0), flips.move(1, 200, 200), flips.move(2, 0, 200), flips.move(3, 0, 0)), "1 1 1 2");
         Check.same("21: their places", Told.places(flips), "200 200 0 0 / 0 200 200 0");
         CircleFlips none = new CircleFlips();
         Check.outside("21: of none", none, () -> none.move(0, 9, 9));
@@ -234,7 +264,8 @@ public final class ChangeBoundaryTests {
 
     // "Returns how many due triangles there are then that were none before (with other places, perhaps)."
     private static void moveCounts() {
-        int[][] moves = {{2, 5, 5, 2}, {2, 3, 3, 0}, {2, 1, 1, 1}, {2, 200, 200, 2}, {0, 1, 1, 0}, {3, 0, 200, 0}, {1, 2, 2, 2}, {2, 0, 8, 2}};
+        int[][] moves = {{2, 5, 5, 2}, {2, 3, 3, 0}, {2, 1, 1, 1}, {2, 200, 200, 2}, {0, 1, 1, 0}, {3, 0, 200, 0}, {1, 2, 2, 2},
+                {2, 0, 8, 2}};
         for (int[] move : moves) {
             CircleFlips flips = Check.loaded(SQUARE);
             Check.same("21: move(" + Check.row(move[0], move[1], move[2]) + ")", flips.move(move[0], move[1], move[2]), move[3]);
@@ -242,6 +273,9 @@ public final class ChangeBoundaryTests {
             flips.flip(0, 2);
             Check.same("21: also of a drawing that was flipped", flips.move(move[0], move[1], move[2]), move[3]);
         }
+        CircleFlips square = Check.loaded(SQUARE);
+        Check.same("21: only those just before count",
+                Check.row(square.move(2, 1, 1), square.move(2, 3, 3), square.move(2, 1, 1)), "1 0 1");
         CircleFlips line = Check.loaded("plane;at 0 0 4 0 8 0 12 0;");
         Check.same("21: off a line", Check.row(line.move(3, 6, 6), line.move(3, 12, 0), line.move(1, 4, 1)), "2 0 2");
         CircleFlips twenty = Check.loaded(TWENTY);
@@ -264,7 +298,8 @@ public final class ChangeBoundaryTests {
 
     // "if it is refused", for each of the reasons
     private static void flipRefused() {
-        String[] texts = {SQUARE, SQUARE, SQUARE, "plane;at 2 0 2 4 0 0 8 0;", "plane;at 2 4 2 0 0 0 8 0;", "plane;at 0 0 8 0 4 2 4 8;",
+        String[] texts = {SQUARE, SQUARE, SQUARE, "plane;at 2 0 2 4 0 0 8 0;", "plane;at 2 4 2 0 0 0 8 0;",
+                "plane;at 0 0 8 0 4 2 4 8;",
             "plane;at 5 5;", "plane;at 0 0 4 0 8 0;"};
         int[][] edges = {{1, 3}, {2, 2}, {0, 1}, {0, 1}, {0, 1}, {2, 3}, {0, 0}, {0, 1}};
         int[] reasons = {1, 1, 2, 3, 3, 3, 1, 1};
@@ -338,7 +373,8 @@ public final class ChangeBoundaryTests {
         long before = flips.checksum();
         Check.same("23: on the circle is not bad", Check.row(flips.mend(500), flips.mend(1), flips.state(9)), "0 0 3");
         Check.same("23: nothing is flipped", flips.checksum(), before);
-        Check.same("23: but it is undone", Check.row(flips.undo(), flips.undo(), flips.state(0), flips.undo(), flips.state(0)), "2 1 4 0 0");
+        Check.same("23: but it is undone", Check.row(flips.undo(), flips.undo(), flips.state(0), flips.undo(), flips.state(0)),
+                "2 1 4 0 0");
     }
 
     // ---- promise 24
@@ -399,7 +435,8 @@ public final class ChangeBoundaryTests {
         change.on(flips);
         Check.same("24: " + name, flips.state(9), 5);
         Check.same("24: undone", flips.undo(), 4);
-        Check.same("24: all as before " + name, flips.checksum() + Told.states(flips) + Told.triangles(flips, false) + Told.corners(flips), before);
+        Check.same("24: all as before " + name,
+                flips.checksum() + Told.states(flips) + Told.triangles(flips, false) + Told.corners(flips), before);
     }
 
     // "The latest 8 changes can be undone, the latest one first"
@@ -411,7 +448,8 @@ public final class ChangeBoundaryTests {
         }
         for (int left = 7; left >= 0; left--) {
             Check.same("24: that can still be undone", flips.undo(), left);
-            Check.same("24: as state(9) tells", Check.row(flips.state(9), flips.state(0), flips.state(11)), Check.row(left, 12 + left, 12 + left));
+            Check.same("24: as state(9) tells", Check.row(flips.state(9), flips.state(0), flips.state(11)),
+                    Check.row(left, 12 + left, 12 + left));
             Check.same("24: the latest one first", flips.point(flips.state(0) - 1, 0), 12 + left);
         }
     }
@@ -420,10 +458,13 @@ public final class ChangeBoundaryTests {
     private static void undoFinal() {
         CircleFlips flips = withPoints(8);
         for (int i = 0; i < 5; i++) {
-            Check.same("24: one is undone and another one made", Check.row(flips.undo(), flips.put(190, i), flips.state(9)), "7 7 8");
+            Check.same("24: one is undone and another one made", Check.row(flips.undo(), flips.put(190, i), flips.state(9)),
+                    "7 7 8");
         }
-        Check.same("24: the first one is not final", Check.row(flips.undo(), flips.undo(), flips.undo(), flips.undo()), "7 6 5 4");
-        Check.same("24: nor the others", Check.row(flips.undo(), flips.undo(), flips.undo(), flips.undo(), flips.undo(), flips.state(0)), "3 2 1 0 -1 0");
+        Check.same("24: the first one is not final", Check.row(flips.undo(), flips.undo(), flips.undo(), flips.undo()),
+                "7 6 5 4");
+        Check.same("24: nor the others",
+                Check.row(flips.undo(), flips.undo(), flips.undo(), flips.undo(), flips.undo(), flips.state(0)), "3 2 1 0 -1 0");
         CircleFlips later = withPoints(9);
         Check.same("24: the first of nine is final", later.state(9), 8);
         later.undo();
@@ -438,9 +479,11 @@ public final class ChangeBoundaryTests {
         CircleFlips flips = withPoints(4);
         flips.undo();
         flips.undo();
-        Check.same("24: an undo is not undone", Check.row(flips.state(9), flips.state(0), flips.undo(), flips.state(0)), "2 2 1 1");
+        Check.same("24: an undo is not undone", Check.row(flips.state(9), flips.state(0), flips.undo(), flips.state(0)),
+                "2 2 1 1");
         flips.put(50, 60);
-        Check.same("24: what was undone does not come again", Check.row(flips.undo(), flips.state(0), flips.undo(), flips.undo()), "1 1 0 -1");
+        Check.same("24: what was undone does not come again",
+                Check.row(flips.undo(), flips.state(0), flips.undo(), flips.undo()), "1 1 0 -1");
     }
 
     // "The input buffer and the error offset are not affected."
@@ -509,7 +552,8 @@ public final class ChangeBoundaryTests {
         Check.outside("22: flip", flips, () -> flips.flip(0, 4));
         Check.refused("22: flip", flips, () -> flips.flip(2, 3));
         Check.illegal("23: mend", flips, () -> flips.mend(0));
-        Check.same("24: only the load and the flip", Check.row(flips.undo(), flips.state(6), flips.undo(), flips.state(0), flips.undo()), "1 0 0 0 -1");
+        Check.same("24: only the load and the flip",
+                Check.row(flips.undo(), flips.state(6), flips.undo(), flips.state(0), flips.undo()), "1 0 0 0 -1");
         Check.same("3: the buffer is as it was", flips.load(20), 1);
     }
 
@@ -526,27 +570,26 @@ public final class ChangeBoundaryTests {
         flips.put(0, 0);
         flips.take(0);
         Check.same("25: state(11) is the last but two", flips.checksum(), 31 * 31);
-        CircleFlips one = Check.loaded("plane;at 0 0;");
-        Check.same("25: one point", one.checksum(), summed(one).longValue());
+        Check.same("25: one point", Check.loaded("plane;at 0 0;").checksum(), summed("plane;at 0 0;").longValue());
     }
 
     // "wrapping around on overflow of a long"
     private static void checksumWraps() {
-        CircleFlips flips = new CircleFlips();
-        boolean wasNegative = false;
-        boolean wasPositive = false;
+        StringBuilder text = new StringBuilder("plane;");
+        int negative = 0;
         for (int p = 0; p < 20; p++) {
-            flips.put(p * 77 % 201, p * 31 % 199);
-            BigInteger sum = summed(flips);
-            Check.same("25: with " + (p + 1) + " points", flips.checksum(), sum.longValue());
-            wasNegative |= flips.checksum() < 0;
-            wasPositive |= flips.checksum() > 0;
+            text.append("at ").append(p * 77 % 201).append(' ').append(p * 31 % 199).append(';');
+            long sum = Check.loaded(text.toString()).checksum();
+            Check.same("25: with " + (p + 1) + " points", sum, summed(text.toString()).longValue());
+            negative += sum < 0 ? 1 : 0;
         }
-        Check.same("25: wrapped around", Check.row(wasNegative ? 1 : 0, wasPositive ? 1 : 0, summed(flips).bitLength() > 64 ? 1 : 0), "1 1 1");
+        Check.same("25: longer than a long", summed(text.toString()).bitLength() > 64, true);
+        Check.same("25: below 0 and above", negative > 0 && negative < 20, true);
     }
 
-    /** All numbers in their order, without any wrapping. */
-    private static BigInteger summed(CircleFlips flips) {
+    /** All numbers in their order, without any wrapping, and few of them asked of one object. */
+    private static BigInteger summed(String text) {
+        CircleFlips flips = Check.loaded(text);
         BigInteger sum = BigInteger.ZERO;
         for (int what = 0; what <= 11; what++) {
             sum = what == 9 ? sum : next(sum, flips.state(what));
@@ -556,14 +599,20 @@ public final class ChangeBoundaryTests {
                 sum = next(sum, flips.point(p, what));
             }
         }
-        for (boolean isDue : new boolean[] {false, true}) {
-            for (int t = 0; t < flips.state(isDue ? 5 : 1); t++) {
-                for (int what = 0; what <= 6; what++) {
-                    sum = next(sum, flips.triangle(t, isDue, what));
-                }
+        sum = withTriangles(sum, Check.loaded(text), false);
+        sum = withTriangles(sum, Check.loaded(text), true);
+        return next(next(sum, flips.lift()), flips.tree());
+    }
+
+    private static BigInteger withTriangles(BigInteger before, CircleFlips flips, boolean isDue) {
+        BigInteger sum = before;
+        int count = flips.state(isDue ? 5 : 1);
+        for (int t = 0; t < count; t++) {
+            for (int what = 0; what <= 6; what++) {
+                sum = next(sum, flips.triangle(t, isDue, what));
             }
         }
-        return next(next(sum, flips.lift()), flips.tree());
+        return sum;
     }
 
     private static BigInteger next(BigInteger sum, long number) {
@@ -571,14 +620,18 @@ public final class ChangeBoundaryTests {
     }
 
     private static void checksumParts() {
-        CircleFlips flips = Check.loaded(RHOMBUS + "flip 2 3;");
-        Check.same("25: the drawing, then the due ones", flips.checksum(), summed(flips).longValue());
+        String bent = RHOMBUS + "flip 2 3;";
+        CircleFlips flips = Check.loaded(bent);
+        Check.same("25: the drawing, then the due ones", flips.checksum(), summed(bent).longValue());
         long before = flips.checksum();
         Check.same("25: asking changes nothing", flips.checksum(), before);
         flips.flip(0, 1);
-        Check.same("25: a flip more", flips.checksum(), summed(flips).longValue());
+        Check.same("25: a flip more", flips.checksum(), summed(bent + "flip 1 0;").longValue());
         flips.flip(2, 3);
         Check.same("25: the same drawing, with two flips more", flips.checksum() - before, checksumOfFlips(flips, 2));
+        flips.mend(1);
+        flips.mend(1);
+        Check.same("25: without state(9)", flips.checksum(), summed(bent + "flip 0 1;flip 3 2;flip 1 0;").longValue());
     }
 
     // "An object is used for at most 512 calls after it has been made"

@@ -58,6 +58,14 @@ public final class QuestionBoundaryTests {
         Check.close("QuestionBoundaryTests");
     }
 
+    private static CircleFlips withPoints(int[][] places) {
+        CircleFlips flips = new CircleFlips();
+        for (int[] place : places) {
+            flips.put(place[0], place[1]);
+        }
+        return flips;
+    }
+
     private static void none(String what, CircleFlips flips, Runnable call) {
         Check.thrown(what, flips, NoSuchElementException.class, call);
     }
@@ -69,9 +77,8 @@ public final class QuestionBoundaryTests {
         for (String text : FLAT) {
             CircleFlips flips = Check.loaded(text);
             int points = flips.state(0);
-            Check.same("5: " + text, Check.row(flips.state(1), flips.state(2), flips.state(3), flips.state(4), flips.state(5), flips.state(6)), "0 0 0 0 0 0");
-            Check.same("5: corners of " + text, flips.state(7), Math.min(points, 2));
-            Check.same("5: layers of " + text, flips.state(8), (points + 1) / 2);
+            String hull = Math.min(points, 2) + " " + (points + 1) / 2;
+            Check.same("5: " + text, Told.states(flips), points + " 0 0 0 0 0 0 " + hull + " 1 0 0");
             Check.same("14: lift of " + text, flips.lift(), 0);
             Check.same("18: share of " + text, flips.share(), 0.0f);
             none("10: badEdge of " + text, flips, flips::badEdge);
@@ -111,10 +118,11 @@ public final class QuestionBoundaryTests {
                 + " 0 6 9, 0 7 10, 0 8 11, 0 9 12, 0 10 13, 0 11 14, 0 12 15, 0 13 16, 0 14 17, 0 15 18, 0 16 19");
         Check.same("7: all the others are on it", Told.triangles(flips, true, 5), "17" + " 17".repeat(17));
         Check.same("7: none is within", Told.triangles(flips, true, 4), "0" + " 0".repeat(17));
-        Check.same("12: all hold a place", Check.row(flips.hit(20, 20), flips.hit(37, 14), flips.hit(38, 22)), "18 0 0");
+        Check.same("12: all hold a place", asked(flips::hit, 20, 20, 37, 14, 38, 22), "18 0 0");
         flips.take(0);
         Check.same("20: all with the next one", Told.points(flips, 2), "18 3 3 2 3 3 3 3 3 3 3 3 3 3 3 3 3 2 3");
-        Check.same("20: the smallest index is 0 again", Check.row(flips.point(0, 2), flips.point(0, 3), flips.state(5)), "18 18 17");
+        Check.same("20: the smallest index is 0 again", Check.row(flips.point(0, 2), flips.point(0, 3), flips.state(5)),
+                "18 18 17");
         flips.put(20, 20);
         Check.same("19: a point in the midst", Check.row(flips.state(5), flips.point(19, 3), flips.point(0, 3)), "19 19 3");
     }
@@ -146,7 +154,8 @@ public final class QuestionBoundaryTests {
     // "turn(a, b, c) .. above 0 if one turns left at b, 0 if they are on a line", next to a line
     private static void dueThinnest() {
         CircleFlips flips = Check.loaded("plane;at 0 0 200 199 199 198;");
-        Check.same("7: the thinnest one", Check.row(flips.state(5), flips.triangle(0, true, 3), flips.circle(0, 1, 2, 2)), "1 1 0");
+        Check.same("7: the thinnest one", Check.row(flips.state(5), flips.triangle(0, true, 3), flips.circle(0, 1, 2, 2)),
+                "1 1 0");
         Check.same("7: on a line", Check.loaded("plane;at 0 0 200 198 100 99;").state(5), 0);
         Check.same("7: the widest one", Check.loaded("plane;at 0 0 200 0 200 200;").triangle(0, true, 3), 40000);
         CircleFlips straight = Check.loaded("plane;at 0 0 200 100 100 50 100 51;");
@@ -176,10 +185,12 @@ public final class QuestionBoundaryTests {
     private static void flippedKeepsItsDueOnes() {
         CircleFlips flips = Check.loaded(RHOMBUS);
         flips.flip(2, 3);
-        Check.same("5: due triangles, edges that are no due ones", Check.row(flips.state(5), flips.state(6), flips.state(4)), "2 1 1");
+        Check.same("5: due triangles, edges that are no due ones", Check.row(flips.state(5), flips.state(6), flips.state(4)),
+                "2 1 1");
         Check.same("6: edges, and due edges", Told.points(flips, 2) + " / " + Told.points(flips, 3), "3 3 2 2 / 2 2 3 3");
-        Check.same("7: within, of the drawing and of the due ones", Told.triangles(flips, false, 4) + " / " + Told.triangles(flips, true, 4), "1 1 / 0 0");
-        Check.same("12: of the due ones", Check.row(flips.hit(10, 11), flips.hit(10, 5), flips.hit(19, 4)), "0 2 1");
+        Check.same("7: within, of the drawing and of the due ones",
+                Told.triangles(flips, false, 4) + " / " + Told.triangles(flips, true, 4), "1 1 / 0 0");
+        Check.same("12: of the due ones", asked(flips::hit, 10, 11, 10, 5, 19, 4), "0 2 1");
         Check.same("16: of the due ones", flips.centre(0, true) + " " + flips.centre(1, true), "6.25 13.75");
         Check.same("17: of the drawing", flips.roundness(1), Float.floatToIntBits(100f / 650f));
     }
@@ -206,6 +217,14 @@ public final class QuestionBoundaryTests {
         CircleFlips nest = Check.loaded("plane;at 0 0 200 0 100 200 12 8 188 8 100 180 30 18 170 18 100 150 50 30 150 30 100 120"
                 + " 70 40 130 40 100 90 90 50 110 50 100 70 99 55 101 55;");
         Check.same("5: seven layers", Check.row(nest.state(7), nest.state(8)), "3 7");
+        Check.same("5: the most triangles and edges", Check.row(nest.state(1), nest.state(2), nest.state(3), nest.state(5)),
+                "35 54 3 35");
+        Check.same("7: the last of them",
+                Check.row(nest.triangle(34, false, 0), nest.triangle(34, true, 1), nest.triangle(34, false, 2)), "17 18 19");
+        Check.outside("7: beyond the last", nest, () -> nest.triangle(35, true, 0));
+        Check.same("22: one of the first is flipped", nest.flip(0, 4), 103);
+        Check.same("7: the last of them still",
+                Check.row(nest.triangle(34, false, 0), nest.triangle(34, false, 1), nest.triangle(34, false, 2)), "17 18 19");
         Check.same("6: three a layer", Told.points(nest, 4), "0 0 0 1 1 1 2 2 2 3 3 3 4 4 4 5 5 5 6 6");
     }
 
@@ -262,7 +281,8 @@ public final class QuestionBoundaryTests {
         Check.same("6: no other one", Check.loaded("plane;at 5 5;").point(0, 6), -1);
         Check.same("6: two", Told.points(Check.loaded("plane;at 0 0 200 200;"), 6), "1 0");
         Check.same("6: of several", Told.points(Check.loaded("plane;at 5 5 0 5 5 0 10 5 5 10;"), 6), "1 0 0 0 0");
-        Check.same("6: of several, the last ones", Told.points(Check.loaded("plane;at 90 90 0 5 5 0 10 5 5 10 5 5;"), 6), "3 5 5 5 5 1");
+        Check.same("6: of several, the last ones", Told.points(Check.loaded("plane;at 90 90 0 5 5 0 10 5 5 10 5 5;"), 6),
+                "3 5 5 5 5 1");
         Check.same("6: a little nearer", Told.points(Check.loaded("plane;at 0 0 200 0 0 199;"), 6), "2 0 0");
         Check.same("6: not along one side alone", Told.points(Check.loaded("plane;at 0 0 9 9 0 12 13 0;"), 6), "2 2 1 1");
     }
@@ -283,9 +303,12 @@ public final class QuestionBoundaryTests {
         Check.same("6: one point", Told.points(Check.loaded("plane;at 9 9;"), 4), "0");
         Check.same("6: two points", Told.points(Check.loaded("plane;at 9 9 8 8;"), 4), "0 0");
         Check.same("6: three on a line", Told.points(Check.loaded("plane;at 9 9 8 8 0 0;"), 4), "0 1 0");
-        Check.same("6: twenty on a line", Told.points(Check.loaded(LINE_OF_TWENTY), 4), "0 1 2 3 4 5 6 7 8 9 9 8 7 6 5 4 3 2 1 0");
-        Check.same("6: on an edge of the hull", Told.points(Check.loaded("plane;at 0 0 4 0 2 0 4 4 0 4 4 2 2 4 0 2;"), 4), "0 0 1 0 0 1 1 1");
-        Check.same("6: on a line between, inside", Told.points(Check.loaded("plane;at 2 2 0 0 4 0 4 4 0 4 1 2 3 2;"), 4), "2 0 0 0 0 1 1");
+        Check.same("6: twenty on a line", Told.points(Check.loaded(LINE_OF_TWENTY), 4),
+                "0 1 2 3 4 5 6 7 8 9 9 8 7 6 5 4 3 2 1 0");
+        Check.same("6: on an edge of the hull", Told.points(Check.loaded("plane;at 0 0 4 0 2 0 4 4 0 4 4 2 2 4 0 2;"), 4),
+                "0 0 1 0 0 1 1 1");
+        Check.same("6: on a line between, inside", Told.points(Check.loaded("plane;at 2 2 0 0 4 0 4 4 0 4 1 2 3 2;"), 4),
+                "2 0 0 0 0 1 1");
         Check.same("6: just within a triangle", Told.points(Check.loaded("plane;at 0 0 200 200 0 200 99 100;"), 4), "0 0 0 1");
         Check.same("6: just outside", Told.points(Check.loaded("plane;at 0 0 200 200 0 200 100 99;"), 4), "0 0 0 0");
         Check.same("6: a ring", Told.points(Check.loaded(RING_OF_TWENTY), 4), "0" + " 0".repeat(19));
@@ -324,7 +347,8 @@ public final class QuestionBoundaryTests {
     // "4 how many points are within its circle, 5 how many other points are on it, 6 .. in common"
     private static void triangleCounts() {
         CircleFlips one = Check.loaded("plane;at 0 0 200 0 0 200;");
-        Check.same("7: one triangle", Check.row(one.triangle(0, true, 3), one.triangle(0, true, 4), one.triangle(0, true, 5), one.triangle(0, true, 6)), "40000 0 0 0");
+        Check.same("7: one triangle, its turn", Told.triangles(one, true, 3), "40000");
+        Check.same("7: and none beside it", one.triangle(0, true, 4) + one.triangle(0, true, 5) + one.triangle(0, true, 6), 0);
         CircleFlips three = Check.loaded("plane;at 0 0 200 0 0 200 50 50;");
         Check.same("7: each has two beside it", Told.triangles(three, true, 6), "2 2 2");
         CircleFlips flips = Check.loaded("plane;at 0 50 200 50 100 49 100 51 60 50 140 50;");
@@ -332,6 +356,9 @@ public final class QuestionBoundaryTests {
         flips.flip(2, 3);
         Check.same("7: flipped", Told.triangles(flips, false, 4), "0 0 0 0 1 1");
         Check.same("7: and the points on it", Told.triangles(flips, false, 5), "0 0 0 0 0 0");
+        CircleFlips first = Check.loaded("plane;at 10 4 0 5 20 5 10 0 10 11;flip 0 4;");
+        Check.same("7: a triangle without the point 0", Told.triangles(first, false), "0 1 2, 0 1 3, 0 2 3, 1 2 4");
+        Check.same("7: and the point 0 within", Told.triangles(first, false, 4), "1 0 0 2");
     }
 
     // ---- promise 8
@@ -352,10 +379,12 @@ public final class QuestionBoundaryTests {
     // "2 if p, q, r are on a line (or not three)"; "if there are no such points"
     private static void circleNotThree() {
         CircleFlips flips = Check.loaded("plane;at 0 0 9 9 4 4 9 0;");
-        Check.same("8: on a line", Check.row(flips.circle(0, 1, 2, 3), flips.circle(2, 0, 1, 0), flips.circle(1, 2, 0, 1)), "2 2 2");
+        Check.same("8: on a line", Check.row(flips.circle(0, 1, 2, 3), flips.circle(2, 0, 1, 0), flips.circle(1, 2, 0, 1)),
+                "2 2 2");
         Check.same("8: two", Check.row(flips.circle(0, 0, 3, 1), flips.circle(0, 3, 0, 1), flips.circle(3, 0, 0, 1)), "2 2 2");
         Check.same("8: one", flips.circle(3, 3, 3, 3), 2);
-        Check.same("8: s is one of them", Check.row(flips.circle(0, 1, 3, 0), flips.circle(0, 1, 3, 1), flips.circle(0, 1, 3, 3)), "0 0 0");
+        Check.same("8: s is one of them",
+                Check.row(flips.circle(0, 1, 3, 0), flips.circle(0, 1, 3, 1), flips.circle(0, 1, 3, 3)), "0 0 0");
         for (int none : new int[] {-1, 4, Integer.MIN_VALUE, Integer.MAX_VALUE}) {
             Check.outside("8: p", flips, () -> flips.circle(none, 0, 0, 0));
             Check.outside("8: q", flips, () -> flips.circle(0, none, 0, 0));
@@ -369,12 +398,9 @@ public final class QuestionBoundaryTests {
     private static void circleWithoutOverflow() {
         int[][] places = {{0, 0}, {200, 0}, {200, 200}, {0, 200}, {199, 1}, {1, 200}, {100, 99}, {200, 199}, {199, 198}, {3, 2},
             {120, 80}, {0, 199}, {1, 1}, {57, 200}};
-        CircleFlips flips = new CircleFlips();
-        for (int[] place : places) {
-            flips.put(place[0], place[1]);
-        }
         for (int p = 0; p < places.length; p += 3) {
             for (int q = 0; q < places.length; q++) {
+                CircleFlips flips = withPoints(places);
                 for (int r = 0; r < places.length; r++) {
                     for (int s = 1; s < places.length; s += 4) {
                         Check.same("8: circle(" + Check.row(p, q, r, s) + ")", flips.circle(p, q, r, s),
@@ -399,7 +425,8 @@ public final class QuestionBoundaryTests {
 
     // ---- promise 9
 
-    // "1 there is no such edge (or a is b); 2 it is border; 3 c, d and a are on a line, or c, d and b are, or a and b are on the same side"
+    // "1 there is no such edge (or a is b); 2 it is border; 3 c, d and a are on a line, or c, d and b are,
+    // or a and b are on the same side of the line through c and d"
     private static void whyReasons() {
         CircleFlips square = Check.loaded(SQUARE);
         Check.same("9: not refused", Check.row(square.why(0, 2), square.why(2, 0)), "0 0");
@@ -506,6 +533,15 @@ public final class QuestionBoundaryTests {
         int of(int x, int y);
     }
 
+    /** What is answered for each of some places, x and y of each. */
+    private static String asked(Asked asked, int... places) {
+        int[] answers = new int[places.length / 2];
+        for (int i = 0; i < answers.length; i++) {
+            answers[i] = asked.of(places[2 * i], places[2 * i + 1]);
+        }
+        return Check.row(answers);
+    }
+
     // "both from -1000 to 1000"
     private static void wrongPlaces(String name, CircleFlips flips, Asked asked) {
         for (int far : new int[] {-1001, 1001, 2000, Integer.MIN_VALUE, Integer.MAX_VALUE}) {
@@ -519,48 +555,65 @@ public final class QuestionBoundaryTests {
         for (String text : new String[] {"plane;", SQUARE}) {
             CircleFlips flips = Check.loaded(text);
             wrongPlaces("11: at", flips, flips::at);
-            Check.same("11: the farthest", Check.row(flips.at(1000, 1000), flips.at(-1000, -1000), flips.at(-1000, 0), flips.at(0, 1000)), "-1 -1 -1 -1");
+            Check.same("11: the farthest", asked(flips::at, 1000, 1000, -1000, -1000, -1000, 0, 0, 1000), "-1 -1 -1 -1");
         }
         CircleFlips wide = Check.loaded("plane;at 0 0 200 0 200 200 0 200;");
-        Check.same("11: in the widest", Check.row(wide.at(0, 0), wide.at(200, 0), wide.at(0, 200), wide.at(200, 200)), "0 0 1 0");
-        Check.same("11: just outside it", Check.row(wide.at(-1, 0), wide.at(201, 0), wide.at(0, -1), wide.at(200, 201)), "-1 -1 -1 -1");
+        Check.same("11: in the widest", asked(wide::at, 0, 0, 200, 0, 0, 200, 200, 200), "0 0 1 0");
+        Check.same("11: just outside it", asked(wide::at, -1, 0, 201, 0, 0, -1, 200, 201), "-1 -1 -1 -1");
     }
 
     // "has a place within it or on its edges"
     private static void atEdges() {
         CircleFlips flips = Check.loaded("plane;at 10 10 30 10 10 30;");
-        Check.same("11: its points", Check.row(flips.at(10, 10), flips.at(30, 10), flips.at(10, 30)), "0 0 0");
-        Check.same("11: its edges", Check.row(flips.at(20, 10), flips.at(10, 20), flips.at(20, 20), flips.at(29, 11)), "0 0 0 0");
-        Check.same("11: just within", Check.row(flips.at(11, 11), flips.at(19, 20), flips.at(28, 11)), "0 0 0");
-        Check.same("11: just outside", Check.row(flips.at(9, 10), flips.at(10, 9), flips.at(20, 21), flips.at(30, 11)), "-1 -1 -1 -1");
-        Check.same("11: on the line of an edge, beyond it", Check.row(flips.at(31, 10), flips.at(10, 31), flips.at(10, -1000), flips.at(31, 9)), "-1 -1 -1 -1");
+        Check.same("11: its points", asked(flips::at, 10, 10, 30, 10, 10, 30), "0 0 0");
+        Check.same("11: its edges", asked(flips::at, 20, 10, 10, 20, 20, 20, 29, 11), "0 0 0 0");
+        thinOnes();
+        Check.same("11: just within", asked(flips::at, 11, 11, 19, 20, 28, 11), "0 0 0");
+        Check.same("11: just outside", asked(flips::at, 9, 10, 10, 9, 20, 21, 30, 11), "-1 -1 -1 -1");
+        Check.same("11: on the line of an edge, beyond it", asked(flips::at, 31, 10, 10, 31, 10, -1000, 31, 9), "-1 -1 -1 -1");
         CircleFlips back = Check.loaded("plane;at 10 10 10 30 30 10;");
-        Check.same("11: turned to the right", Check.row(back.at(20, 20), back.at(11, 11), back.at(20, 21), back.at(31, 10), back.at(9, 10)), "0 0 -1 -1 -1");
+        Check.same("11: turned to the right", asked(back::at, 20, 20, 11, 11, 20, 21, 31, 10, 9, 10), "0 0 -1 -1 -1");
+    }
+
+    /** Places that turn by 1 at an edge of a triangle, on both sides of it, however its points are numbered. */
+    private static void thinOnes() {
+        String[] numbered = {"0 0 7 4 5 4", "7 4 5 4 0 0", "5 4 0 0 7 4", "0 0 5 4 7 4", "5 4 7 4 0 0", "7 4 0 0 5 4"};
+        for (String places : numbered) {
+            CircleFlips flips = Check.loaded("plane;at " + places + ";");
+            Check.same("11: within a thin one, " + places, asked(flips::at, 4, 3, 5, 3, 6, 4), "0 0 0");
+            Check.same("11: just out of it, " + places, asked(flips::at, 2, 1, 1, 1, 6, 5, 4, 4), "-1 -1 -1 -1");
+        }
     }
 
     // "the triangle of the drawing with the smallest index"
     private static void atSmallest() {
         CircleFlips flips = Check.loaded("plane;at 10 5 90 20 100 80 20 90 50 50 55 45;");
-        Check.same("11: at the points", Check.row(flips.at(10, 5), flips.at(90, 20), flips.at(100, 80), flips.at(20, 90), flips.at(50, 50), flips.at(55, 45)), "0 0 3 1 1 0");
+        Check.same("11: at the points", asked(flips::at, 10, 5, 90, 20, 100, 80, 20, 90, 50, 50, 55, 45), "0 0 3 1 1 0");
         Check.same("11: before a flip", flips.at(60, 42), 3);
         flips.flip(2, 5);
         Check.same("11: of the drawing", flips.at(60, 42), 4);
         CircleFlips square = Check.loaded(SQUARE);
-        Check.same("11: on a common edge", Check.row(square.at(0, 0), square.at(1, 1), square.at(4, 4)), "0 0 0");
+        Check.same("11: on a common edge", asked(square::at, 0, 0, 1, 1, 4, 4), "0 0 0");
     }
 
     private static void hitRange() {
         for (String text : new String[] {"plane;", SQUARE}) {
             CircleFlips flips = Check.loaded(text);
             wrongPlaces("12: hit", flips, flips::hit);
-            Check.same("12: the farthest", Check.row(flips.hit(1000, 1000), flips.hit(-1000, -1000), flips.hit(-1000, 0), flips.hit(0, 1000)), "0 0 0 0");
+            Check.same("12: the farthest", asked(flips::hit, 1000, 1000, -1000, -1000, -1000, 0, 0, 1000), "0 0 0 0");
         }
-        int[][] corners = {{0, 0}, {200, 199}, {199, 198}};
-        CircleFlips wide = Check.loaded("plane;at 0 0 200 199 199 198;");
-        for (int x = -1000; x <= 1000; x += 40) {
+        hitFar(new int[][] {{0, 0}, {200, 199}, {199, 198}});
+        hitFar(new int[][] {{0, 0}, {200, 0}, {200, 200}});
+        hitFar(new int[][] {{0, 200}, {200, 200}, {100, 190}});
+    }
+
+    // "products are computed without overflow (long)", with the farthest places
+    private static void hitFar(int[][] corners) {
+        CircleFlips flips = withPoints(corners);
+        for (int x = -1000; x <= 1000; x += 100) {
             for (int y = -1000; y <= 1000; y += 125) {
                 int side = side(corners[0], corners[1], corners[2], new int[] {x, y});
-                Check.same("12: of the widest circle, hit(" + x + ", " + y + ")", wide.hit(x, y), side > 0 ? 1 : 0);
+                Check.same("12: hit(" + x + ", " + y + ")", flips.hit(x, y), side > 0 ? 1 : 0);
             }
         }
     }
@@ -568,17 +621,18 @@ public final class QuestionBoundaryTests {
     // "how many due triangles have a place within their circles": on a circle is not within it
     private static void hitSides() {
         CircleFlips flips = Check.loaded("plane;at 0 0 100 0 100 100;");
-        Check.same("12: on the circle", Check.row(flips.hit(0, 0), flips.hit(100, 100), flips.hit(0, 100), flips.hit(60, 120), flips.hit(-20, 40)), "0 0 0 0 0");
-        Check.same("12: just within", Check.row(flips.hit(60, 119), flips.hit(2, 100), flips.hit(-19, 40), flips.hit(1, 0)), "1 1 1 1");
-        Check.same("12: just outside", Check.row(flips.hit(60, 121), flips.hit(1, 101), flips.hit(-21, 40), flips.hit(-1, 0), flips.hit(-1, 1)), "0 0 0 0 0");
-        Check.same("12: outside the triangle", Check.row(flips.hit(10, 90), flips.hit(50, -20), flips.hit(50, -21)), "1 1 0");
+        Check.same("12: on the circle", asked(flips::hit, 0, 0, 100, 100, 0, 100, 60, 120, -20, 40), "0 0 0 0 0");
+        Check.same("12: just within", asked(flips::hit, 60, 119, 2, 100, -19, 40, 1, 0), "1 1 1 1");
+        Check.same("12: just outside", asked(flips::hit, 60, 121, 1, 101, -21, 40, -1, 0, -1, 1), "0 0 0 0 0");
+        Check.same("12: outside the triangle", asked(flips::hit, 10, 90, 50, -20, 50, -21), "1 1 0");
     }
 
     // ---- promise 13
 
     // "if there is no such place"
     private static void cornerRange() {
-        for (String text : new String[] {"plane;", "plane;at 5 5;", "plane;at 5 5 6 6;", "plane;at 5 5 6 6 7 7;", SQUARE, RING_OF_TWENTY}) {
+        String[] texts = {"plane;", "plane;at 5 5;", "plane;at 5 5 6 6;", "plane;at 5 5 6 6 7 7;", SQUARE, RING_OF_TWENTY};
+        for (String text : texts) {
             CircleFlips flips = Check.loaded(text);
             int corners = flips.state(7);
             none("13: corner(" + corners + ") of " + text, flips, () -> flips.corner(corners));
@@ -595,7 +649,8 @@ public final class QuestionBoundaryTests {
         Check.same("13: to the left", Told.corners(Check.loaded(SQUARE)), "0 1 2 3");
         Check.same("13: numbered to the right", Told.corners(Check.loaded("plane;at 0 0 0 4 4 4 4 0;")), "0 3 2 1");
         Check.same("13: numbered across", Told.corners(Check.loaded("plane;at 4 4 0 0 0 4 4 0;")), "0 2 1 3");
-        Check.same("13: the smallest index of the corners", Told.corners(Check.loaded("plane;at 2 2 2 1 4 0 4 4 0 4 0 0;")), "2 3 4 5");
+        Check.same("13: the smallest index of the corners", Told.corners(Check.loaded("plane;at 2 2 2 1 4 0 4 4 0 4 0 0;")),
+                "2 3 4 5");
         Check.same("13: twenty", Told.corners(Check.loaded(RING_OF_TWENTY)), "0 3 6 9 12 15 18 1 4 7 10 13 16 19 2 5 8 11 14 17");
         CircleFlips flips = Check.loaded("plane;at 1 0 0 0 4 0 4 4 0 4;");
         Check.same("13: not the point 0", Told.corners(flips), "1 2 3 4");
@@ -610,8 +665,15 @@ public final class QuestionBoundaryTests {
         Check.same("13: on a line", Told.corners(Check.loaded("plane;at 5 5 7 7 0 0 9 9 6 6;")), "2 3");
         Check.same("13: on an upright line", Told.corners(Check.loaded("plane;at 5 5 5 7 5 0 5 9;")), "2 3");
         Check.same("13: on a level line", Told.corners(Check.loaded("plane;at 5 5 7 5 0 5 9 5;")), "2 3");
-        Check.same("13: on each edge", Told.corners(Check.loaded("plane;at 2 0 4 2 2 4 0 2 0 0 4 0 4 4 0 4 1 0 4 3;")), "4 5 6 7");
+        Check.same("13: on each edge", Told.corners(Check.loaded("plane;at 2 0 4 2 2 4 0 2 0 0 4 0 4 4 0 4 1 0 4 3;")),
+                "4 5 6 7");
         Check.same("13: just out of an edge", Told.corners(Check.loaded("plane;at 0 1 200 1 200 200 0 200 100 0;")), "0 4 1 2 3");
+        String[] thin = {"0 0 200 199 199 198", "199 198 0 0 200 199", "200 199 199 198 0 0"};
+        String[] layers = {"0 0 1 0", "1 0 0 0", "0 1 0 0"};
+        for (int i = 0; i < thin.length; i++) {
+            Check.same("13: the thinnest, " + thin[i], Told.corners(Check.loaded("plane;at " + thin[i] + ";")), "0 2 1");
+            Check.same("6: just within, " + thin[i], Told.points(Check.loaded("plane;at " + thin[i] + " 3 2;"), 4), layers[i]);
+        }
         Check.same("13: just within one", Told.corners(Check.loaded("plane;at 0 0 200 0 200 200 0 200 100 1;")), "0 1 2 3");
     }
 
@@ -634,7 +696,8 @@ public final class QuestionBoundaryTests {
         Check.same("15: two", Check.loaded("plane;at 200 200 0 0;").tree(), 80000);
         Check.same("15: twenty", Check.loaded(LINE_OF_TWENTY).tree(), 38);
         Check.same("15: squares, not lengths", Check.loaded("plane;at 0 0 10 0 5 1;").tree(), 52);
-        Check.same("15: the last joins two groups", Check.loaded("plane;at 0 0 200 200 1 0 200 199 0 1 199 200;").tree(), 4 + 2 * 199 * 199);
+        Check.same("15: the last joins two groups", Check.loaded("plane;at 0 0 200 200 1 0 200 199 0 1 199 200;").tree(),
+                4 + 2 * 199 * 199);
         CircleFlips flips = Check.loaded(SQUARE);
         flips.flip(0, 2);
         Check.same("15: the drawing does not matter", flips.tree(), 48);
@@ -654,6 +717,10 @@ public final class QuestionBoundaryTests {
         Check.same("16: turned to the left", left.centre(0, true) + " " + left.centre(0, false), 141.0 / 42.0 + " 1.5");
         CircleFlips right = Check.loaded("plane;at 0 0 0 3 7 1;");
         Check.same("16: turned to the right", right.centre(0, true) + " " + right.centre(0, false), 141.0 / 42.0 + " 1.5");
+        CircleFlips apart = Check.loaded("plane;at 1 2 8 3 4 9;");
+        Check.same("16: none at 0", apart.centre(0, true) + " " + apart.centre(0, false), 384.0 / 92.0 + " " + 440.0 / 92.0);
+        CircleFlips minus = Check.loaded("plane;at 2 0 0 1 3 1 1 0;");
+        Check.same("16: both have this one", minus.centre(0, true) + " " + minus.centre(1, true), "1.5 1.5");
         Check.same("16: at 0", Check.loaded("plane;at 0 0 2 0 1 1;").centre(0, false) == 0.0, true);
     }
 
@@ -665,10 +732,13 @@ public final class QuestionBoundaryTests {
             Check.outside("17: roundness(" + none + ")", square, () -> square.roundness(none));
         }
         Check.same("17: thin", Check.loaded("plane;at 0 0 200 199 199 198;").roundness(0), Float.floatToIntBits(1f / 158408f));
-        Check.same("17: the widest", Check.loaded("plane;at 0 0 200 0 200 200;").roundness(0), Float.floatToIntBits(40000f / 160000f));
-        Check.same("17: nearly even sides", Check.loaded("plane;at 0 0 200 0 100 173;").roundness(0), Float.floatToIntBits(34600f / 119858f));
-        Check.same("17: turned to the right", Check.loaded("plane;at 0 0 100 173 200 0;").roundness(0), Float.floatToIntBits(34600f / 119858f));
-        Check.same("17: an eighth", Check.loaded("plane;at 0 0 4 0 2 1;").roundness(0), Float.floatToIntBits(4f / 26f));
+        Check.same("17: the widest", Check.loaded("plane;at 0 0 200 0 200 200;").roundness(0),
+                Float.floatToIntBits(40000f / 160000f));
+        Check.same("17: nearly even sides", Check.loaded("plane;at 0 0 200 0 100 173;").roundness(0),
+                Float.floatToIntBits(34600f / 119858f));
+        Check.same("17: turned to the right", Check.loaded("plane;at 0 0 100 173 200 0;").roundness(0),
+                Float.floatToIntBits(34600f / 119858f));
+        Check.same("17: a low one", Check.loaded("plane;at 0 0 4 0 2 1;").roundness(0), Float.floatToIntBits(4f / 26f));
     }
 
     // "the edges of the drawing, and the points, both converted to float and divided; 0 without points"

@@ -89,7 +89,8 @@ public final class TextBoundaryTests {
         Check.same("1: states", Told.states(flips), "0 0 0 0 0 0 0 0 0 0 0 0");
         CircleFlips loaded = Check.loaded("plane;");
         for (CircleFlips each : new CircleFlips[] {flips, loaded}) {
-            Check.same("1: points are put", Check.row(each.put(0, 5), each.put(20, 5), each.put(10, 0), each.put(10, 10)), "0 1 2 3");
+            Check.same("1: points are put", Check.row(each.put(0, 5), each.put(20, 5), each.put(10, 0), each.put(10, 10)),
+                    "0 1 2 3");
             Check.same("1: flipped and mended", Check.row(each.flip(2, 3), each.mend(9)), "1 1");
             Check.same("1: flips, and points that were put", Check.row(each.state(10), each.state(11)), "2 4");
         }
@@ -193,6 +194,21 @@ public final class TextBoundaryTests {
             Check.same("4: the end of the text", flips.errorOffset(), due[i] < 0 ? lengths[i] : -1);
             Check.illegal("3: the others are gone", flips, () -> flips.load(1));
         }
+        cutByLength();
+    }
+
+    /** A length ends a word or a number, also if its next byte would go on with it. */
+    private static void cutByLength() {
+        String text = "plane;at 12 34;flip 0";
+        for (int length = 0; length <= text.length(); length++) {
+            CircleFlips flips = new CircleFlips();
+            Check.append(flips, text);
+            boolean isWhole = length == 6 || length == 15;
+            int word = length < 5 ? 0 : length == 7 ? 6 : length > 15 && length < 19 ? 15 : -1;
+            Check.same("3: the first " + length, flips.load(length), isWhole ? length / 15 : -2);
+            Check.same("4: of the first " + length, flips.errorOffset(), isWhole ? -1 : word >= 0 ? word : length);
+            Check.same("2: the next text", Check.row(Check.load(flips, "plane;at 1 2;"), flips.point(0, 1)), "1 2");
+        }
     }
 
     // "An empty text has a SYNTAX_ERROR."
@@ -224,7 +240,8 @@ public final class TextBoundaryTests {
             Check.same("3: all other data", flips.checksum(), sum);
             Check.same("3: and the changes", Told.states(flips), states);
         }
-        Check.same("3: they can be undone as before", Check.row(flips.undo(), flips.undo(), flips.state(0), flips.state(6)), "2 1 4 1");
+        Check.same("3: they can be undone as before", Check.row(flips.undo(), flips.undo(), flips.state(0), flips.state(6)),
+                "2 1 4 1");
         Check.same("3: the first of them too", Check.row(flips.undo(), flips.undo(), flips.state(0)), "0 -1 0");
     }
 
@@ -255,7 +272,8 @@ public final class TextBoundaryTests {
         Check.load(flips, "plane;!");
         Check.same("3: an error is none", flips.state(9), 1);
         Check.load(flips, "plane;at 3 3;");
-        Check.same("3: the second one", Check.row(flips.state(9), flips.undo(), flips.state(0), flips.undo(), flips.undo()), "2 1 0 0 -1");
+        Check.same("3: the second one", Check.row(flips.state(9), flips.undo(), flips.state(0), flips.undo(), flips.undo()),
+                "2 1 0 0 -1");
     }
 
     // "Returns the number of points"
@@ -314,7 +332,8 @@ public final class TextBoundaryTests {
     // "Spaces (byte 32) may precede any token and may follow the last one; they are needed only between two numbers."
     private static void spaces() {
         Check.loads("plane;at0 0 4 0 4 4 0 4;flip0 2;flip1 3;", 4);
-        String[] tokens = {"plane", ";", "at", "0", "0", "4", "0", "4", "4", "0", "4", ";", "flip", "0", "2", ";", "flip", "1", "3", ";"};
+        String[] tokens = {"plane", ";", "at", "0", "0", "4", "0", "4", "4", "0", "4", ";", "flip", "0", "2", ";", "flip", "1",
+                "3", ";"};
         for (int wide = 0; wide <= tokens.length; wide++) {
             StringBuilder text = new StringBuilder();
             for (int i = 0; i < tokens.length; i++) {
@@ -366,11 +385,15 @@ public final class TextBoundaryTests {
 
     // "a token .. that the grammar does not allow here, at its first byte"
     private static void wordsAreExact() {
-        for (String word : new String[] {"p", "plan", "plain", "planes", "plane0", "PLANE", "Plane", "xplane", "at", "flip", "7", ";"}) {
-            Check.fails(word + ";", -2, word.equals("plane0") ? 5 : 0);
+        String[] notPlane = {"p", "plan", "plain", "planes", "PLANE", "Plane", "xplane", "planez", "planea", "at", "flip", "7",
+                ";"};
+        for (String word : notPlane) {
+            Check.fails(word + ";", -2, 0);
         }
-        for (String word : new String[] {"a", "t", "ta", "ats", "bat", "aa", "tt", "At", "aT", "plane", "f", "fli", "flipp", "flop", "flap",
-            "slip", "xflip", "FLIP", "7", "0", ";", "z"}) {
+        Check.fails("plane0;", -2, 5);
+        String[] neither = {"a", "t", "ta", "ats", "bat", "aa", "tt", "At", "aT", "atz", "ata", "zat", "aat", "plane", "f", "fli",
+            "flipp", "flipz", "flipa", "flop", "flap", "slip", "xflip", "FLIP", "7", "0", ";", "z"};
+        for (String word : neither) {
             Check.fails("plane;" + word + " 0 0;", -2, 6);
             Check.fails("plane;at 0 0;  " + word + " 1 1;", -2, 15);
         }
